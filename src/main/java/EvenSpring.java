@@ -541,7 +541,7 @@ public final class EvenSpring {
         }
         lookAhead(one.size);
         trial.become(p);
-        for (int i = 0; i < one.size; i++) {
+        for (int i = 0; i < one.size && i < ahead.length; i++) {
             one.put(i, trial.ill);
             trial.passDay(ahead[i], here.truth, here.power);
         }
@@ -701,7 +701,8 @@ public final class EvenSpring {
         tried.become(one);
         int best = 0;
         int most = -1;
-        for (int v = 0; Calendar.allows(what, v); v++) {
+        int last = Calendar.greatest(what);
+        for (int v = 0; v <= last; v++) {
             tried.change(what, v);
             int agreed = agreementsOfTried(n);
             if (agreed > most) {
@@ -772,6 +773,10 @@ public final class EvenSpring {
             return isField(what) && v >= LEAST[what] && v <= MOST[what];
         }
 
+        static int greatest(int what) {
+            return isField(what) ? MOST[what] : 0;
+        }
+
         void startAs(int kind) {
             System.arraycopy(FIRST, 0, fields, 0, FIELDS);
             fields[KIND_OF] = kind;
@@ -803,7 +808,7 @@ public final class EvenSpring {
         }
 
         private int length() {
-            return Math.max(1, fields[LENGTH]);
+            return fields[LENGTH] < 1 ? 1 : fields[LENGTH];
         }
 
         int runsAt(int day) {
@@ -927,11 +932,13 @@ public final class EvenSpring {
         }
 
         Calendar calendarAt(int number) {
-            return number >= 0 && number < calendarCount ? calendars[number] : null;
+            boolean isThere = number >= 0 && number < calendarCount && number < calendars.length;
+            return isThere ? calendars[number] : null;
         }
 
         Pilgrim pilgrimAt(int number) {
-            return number >= 0 && number < pilgrimCount ? pilgrims[number] : null;
+            boolean isThere = number >= 0 && number < pilgrimCount && number < pilgrims.length;
+            return isThere ? pilgrims[number] : null;
         }
 
         boolean hasBoth(int calendar, int other) {
@@ -963,8 +970,8 @@ public final class EvenSpring {
 
         int holySet(int d) {
             int set = 0;
-            for (int c = 0; c < calendarCount; c++) {
-                if (isHolyBy(c, d)) {
+            for (int c = 0; c < calendarCount && c < calendars.length; c++) {
+                if (calendars[c].isHoly(d)) {
                     set |= 1 << c;
                 }
             }
@@ -1082,22 +1089,32 @@ public final class EvenSpring {
                 return tellPilgrim();
             }
             if (isWord("truth")) {
-                if (!readNumber(0, MOST_TRUTH)) {
-                    return false;
-                }
-                told.truth = number;
-                readToken();
-                return true;
+                return tellTruth();
             }
             if (isWord("power")) {
-                if (!readNumber(LEAST_POWER, MOST_POWER)) {
-                    return false;
-                }
-                told.power = number;
-                readToken();
-                return true;
+                return tellPower();
             }
             return tellCalendar();
+        }
+
+        private boolean tellTruth() {
+            readToken();
+            if (!isNumber(0, MOST_TRUTH)) {
+                return false;
+            }
+            told.truth = number;
+            readToken();
+            return true;
+        }
+
+        private boolean tellPower() {
+            readToken();
+            if (!isNumber(LEAST_POWER, MOST_POWER)) {
+                return false;
+            }
+            told.power = number;
+            readToken();
+            return true;
         }
 
         private boolean tellCalendar() {
@@ -1128,14 +1145,19 @@ public final class EvenSpring {
         }
 
         private boolean tellPilgrim() {
-            if (told.pilgrimCount >= MOST_PILGRIMS || !readNumber(0, MOST_ILL)) {
+            if (told.pilgrimCount >= MOST_PILGRIMS) {
+                return false;
+            }
+            readToken();
+            if (!isNumber(0, MOST_ILL)) {
                 return false;
             }
             int ill = number;
             int trusts = EVERY_DAY;
             readToken();
             if (isWord("trusts")) {
-                if (!readNumber(0, told.calendarCount - 1)) {
+                readToken();
+                if (!isNumber(0, told.calendarCount - 1)) {
                     return false;
                 }
                 trusts = number;
@@ -1145,8 +1167,7 @@ public final class EvenSpring {
             return true;
         }
 
-        private boolean readNumber(int least, int most) {
-            readToken();
+        private boolean isNumber(int least, int most) {
             return token == NUMBER && within(number, least, most);
         }
 
@@ -1196,9 +1217,9 @@ public final class EvenSpring {
             end = start;
             if (start >= length) {
                 token = END;
-            } else if (isLetter(start)) {
+            } else if (isLetter(byteAt(start))) {
                 readLetters();
-            } else if (isDigit(start)) {
+            } else if (isDigit(byteAt(start))) {
                 readDigits();
             } else {
                 token = byteAt(start) == ';' ? SIGN : OTHER;
@@ -1208,7 +1229,7 @@ public final class EvenSpring {
 
         private void readLetters() {
             token = WORD;
-            while (end < length && isLetter(end)) {
+            while (end < length && isLetter(byteAt(end))) {
                 end++;
             }
         }
@@ -1216,19 +1237,19 @@ public final class EvenSpring {
         private void readDigits() {
             token = NUMBER;
             number = 0;
-            while (end < length && isDigit(end)) {
+            while (end < length && isDigit(byteAt(end))) {
                 // Held just above the most, so that a long row of digits can't wrap around.
                 number = Math.min(MOST_NUMBER + 1, number * 10 + byteAt(end) - '0');
                 end++;
             }
         }
 
-        private boolean isLetter(int place) {
-            return within(byteAt(place), 'a', 'z');
+        private static boolean isLetter(int b) {
+            return b >= 'a' && b <= 'z';
         }
 
-        private boolean isDigit(int place) {
-            return within(byteAt(place), '0', '9');
+        private static boolean isDigit(int b) {
+            return b >= '0' && b <= '9';
         }
 
         private int byteAt(int place) {
