@@ -1,0 +1,110 @@
+import java.lang.reflect.Constructor;
+import java.lang.reflect.Field;
+import java.lang.reflect.Method;
+import java.lang.reflect.Modifier;
+import java.nio.file.Files;
+import java.nio.file.Path;
+import java.util.HashSet;
+import java.util.Set;
+import java.util.TreeSet;
+import java.util.regex.Pattern;
+
+/** The document's public face, and those rules of LANGUAGE.md that can be told from outside. */
+public final class FaceTest {
+    private static final String FACE = "int calendar(int) int of(int,int) int set(int,int,int) int turn(int,int) "
+        + "int as(int,int) int date(int,int,int) int law(int,int) int pilgrim(int,int) int about(int,int) "
+        + "int mind(int,int,int) int drink(int,int) int bathe(int) int days(int) int now(int) int on(int,int,int) "
+        + "int well(int) int next(int) int agree(int,int,int) int row(int,int,int) int meet(int) "
+        + "int both(int,int,int,int) int trust(int) int truth(int) int cure(int) int kind(int,int) int begin(int,int) "
+        + "int power(int) int feed(int,int) int wipe() int spring() int sheet(int,int,int) long write(int,int,long) "
+        + "int copy(int,int,int,int,int) int lays(int) int book(int,int) int read(int,int) int image() int undo() "
+        + "int tear() int count(int) int status(int)";
+    private static final String[] BANNED = {"throw", "throws", "try", "catch", "synchronized", "assert", "import",
+        "package", "hashCode", "toString", "lambda", "Thread", "Random", "Object", "Exception", "volatile", "native"};
+
+    public static void main(String[] args) throws Exception {
+        face();
+        members();
+        source(Files.readString(Path.of("src/main/java/EvenSpring.java")));
+        Checks.end();
+    }
+
+    private static void face() {
+        Set<String> due = new TreeSet<>();
+        for (String one : FACE.split("(?<=\\)) ")) {
+            due.add(one);
+        }
+        Set<String> got = new TreeSet<>();
+        for (Method m : EvenSpring.class.getDeclaredMethods()) {
+            if (!Modifier.isPrivate(m.getModifiers())) {
+                got.add(told(m));
+            }
+        }
+        Checks.holds("face: " + got, got.equals(due));
+        Checks.due("face: methods", due.size(), 41);
+    }
+
+    private static String told(Method m) {
+        StringBuilder s = new StringBuilder(m.getReturnType().getName()).append(' ').append(m.getName()).append('(');
+        for (Class<?> p : m.getParameterTypes()) {
+            s.append(s.charAt(s.length() - 1) == '(' ? "" : ",").append(p.getName());
+        }
+        return s.append(')').toString();
+    }
+
+    private static void members() {
+        Class<?> c = EvenSpring.class;
+        Checks.holds("public and final", Modifier.isPublic(c.getModifiers()) && Modifier.isFinal(c.getModifiers()));
+        Constructor<?>[] made = c.getDeclaredConstructors();
+        Checks.holds("one constructor", made.length == 1 && made[0].getParameterCount() == 0
+            && Modifier.isPublic(made[0].getModifiers()));
+        Set<String> open = new HashSet<>();
+        for (Method m : c.getDeclaredMethods()) {
+            if (Modifier.isPublic(m.getModifiers())) {
+                open.add(m.getName());
+            }
+        }
+        inside(c, open);
+        Checks.holds("at most twelve classes", c.getDeclaredClasses().length < 12);
+        for (Class<?> one : c.getDeclaredClasses()) {
+            Checks.holds(one + " is static", Modifier.isStatic(one.getModifiers()));
+            Checks.holds(one + " isn't open", !Modifier.isPublic(one.getModifiers()));
+            inside(one, open);
+        }
+    }
+
+    private static void inside(Class<?> c, Set<String> open) {
+        int own = 0;
+        for (Field f : c.getDeclaredFields()) {
+            Checks.holds(f + " is private", Modifier.isPrivate(f.getModifiers()));
+            Checks.holds(f + " is final if static", !Modifier.isStatic(f.getModifiers()) || Modifier.isFinal(f.getModifiers()));
+            own += Modifier.isStatic(f.getModifiers()) ? 0 : 1;
+        }
+        Checks.holds(c + " has at most twenty fields", own <= 20);
+        for (Method m : c.getDeclaredMethods()) {
+            Checks.holds(m + " has at most seven parameters", m.getParameterCount() <= 7);
+            Checks.holds(m + " has a name of its own", Modifier.isPublic(m.getModifiers()) || !open.contains(m.getName()));
+        }
+    }
+
+    private static void source(String text) {
+        String code = text.replaceAll("(?s)/\\*.*?\\*/", "").replaceAll("//[^\n]*", "").replaceAll("\"[^\"\n]*\"", "\"\"");
+        for (String word : BANNED) {
+            Checks.holds("no " + word, !Pattern.compile("\\b" + word + "\\b").matcher(code).find());
+        }
+        Checks.holds("no lambda", !code.contains("->"));
+        Checks.holds("no method reference", !code.contains("::"));
+        int from = 0;
+        int line = 0;
+        for (String one : text.split("\n")) {
+            line++;
+            if (one.matches(" {4}(?: {4})?[a-zA-Z].*\\) \\{")) {
+                from = line;
+            }
+            if (one.matches(" {4}(?: {4})?\\}") && from > 0) {
+                Checks.holds("the method of line " + from + " is short", line - from <= 60);
+                from = 0;
+            }
+        }
+    }
+}
