@@ -807,6 +807,7 @@ public final class EvenSpring {
             return own == LEAP && kind == NEW || own == MONK && kind == OLD;
         }
 
+        // It divides, so it is 1 at least even in a slot that no calendar has yet.
         private int length() {
             return fields[LENGTH] < 1 ? 1 : fields[LENGTH];
         }
@@ -845,10 +846,11 @@ public final class EvenSpring {
 
         boolean isHoly(int day) {
             int runs = runsAt(day);
-            int date = runs % length() + 1;
+            int length = length();
+            int date = runs % length + 1;
             switch (fields[KIND_OF]) {
                 case COG:
-                    return (date + runs / length()) % 2 == 0;
+                    return (date + runs / length) % 2 == 0;
                 case LEAP:
                     return date % 2 == 0 || date == 1;
                 case MONK:

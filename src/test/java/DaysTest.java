@@ -167,5 +167,7 @@ public final class DaysTest {
         Checks.due("17: in 401 days", x.well(0), Checks.NONE);
         x.days(1);
         Checks.due("17: in 400 days", x.well(0), 400);
+        x.days(1);
+        Checks.due("17: in 399 days", x.well(0), 399);
     }
 }

@@ -18,8 +18,8 @@ public final class ImagesTest {
         x.pilgrim(70, 1);
         x.pilgrim(20, -1);
         x.law(0, 8);
-        x.law(1, 1);
         x.days(20);
+        x.law(1, 1);
         int[] now = new int[7];
         for (int what = 0; what < 7; what++) {
             now[what] = x.now(what);
@@ -27,6 +27,10 @@ public final class ImagesTest {
         int bathed = x.count(3);
         Checks.due("38: image", x.image(), 1);
         x.days(40);
+        x.law(1, 0);
+        x.days(20);
+        Checks.holds("good jugs came", x.now(3) > now[3]);
+        Checks.holds("bad jugs came", x.now(4) > now[4]);
         x.set(0, 2, 5);
         x.turn(1, 0);
         x.calendar(0);

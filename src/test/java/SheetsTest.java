@@ -23,10 +23,12 @@ public final class SheetsTest {
         Checks.allFind("32: size", Checks.SIZE, x.sheet(0, 8, -1), x.sheet(0, 0, -1),
             x.sheet(2, 64, Integer.MIN_VALUE));
         Checks.due("32: it stays", x.write(0, 39, 7), 0);
+        x.write(0, 0, 7);
         Checks.due("32: bits 0", x.sheet(0, 0, 40), 0);
         Checks.due("32: it is missing", x.write(0, 0, 1), Checks.MISSING);
         Checks.due("32: anew", x.sheet(0, 8, 40), 40);
         Checks.due("32: all 0", x.write(0, 39, 5), 0);
+        Checks.due("32: all 0", x.write(0, 0, 5), 0);
         Checks.due("32: over it", x.sheet(0, 64, 40), 40);
         Checks.due("32: all 0", x.write(0, 39, 5), 0);
         Checks.due("42: sizes", x.status(6), 3);

@@ -10,6 +10,8 @@ public final class TextTest {
         numbers();
         tokens();
         faults();
+        faultsByOneLetter();
+        faultsAtTheEdgesOfTokens();
         faultsByWhatThereIs();
         faultChangesNothing();
         Checks.end();
@@ -205,6 +207,40 @@ public final class TextTest {
         fault("count;old;new;cog;leap;monk;count $", 28);
         fault("pilgrim1;pilgrim1;pilgrim1;pilgrim1;pilgrim1;pilgrim1;pilgrim1;pilgrim1;pilgrim1", 72);
         fault("pilgrim1;pilgrim1;pilgrim1;pilgrim1;pilgrim1;pilgrim1;pilgrim1;pilgrim1;pilgrim", 72);
+    }
+
+    /** Each word with one of its letters changed is another word. */
+    private static void faultsByOneLetter() {
+        String[] texts = {"count", "old", "new", "cog", "leap", "monk", "pilgrim 5", "truth 5", "power 5",
+            "count begin 5", "count length 5", "count left 5", "count reform 5", "count;pilgrim 5 trusts 0"};
+        for (String text : texts) {
+            Checks.holds("31: " + text, Checks.spring(new EvenSpring(), text) > 0);
+            int word = 0;
+            for (int i = 0; i < text.length(); i++) {
+                char c = text.charAt(i);
+                boolean isLetter = c >= 'a' && c <= 'z';
+                word = isLetter ? word : i + 1;
+                if (isLetter) {
+                    fault(text.substring(0, i) + (c == 'z' ? 'y' : 'z') + text.substring(i + 1), word);
+                }
+            }
+        }
+    }
+
+    private static void faultsAtTheEdgesOfTokens() {
+        fault("counta", 0);
+        fault("countz", 0);
+        fault("count`", 5);
+        fault("count{", 5);
+        fault("countA", 5);
+        fault("power 5/", 7);
+        fault("power 5:", 7);
+        fault("power 5<", 7);
+        fault("power /", 6);
+        fault("power :", 6);
+        fault("power 5\u00b0", 7);
+        fault("power -5", 6);
+        fault("power +5", 6);
     }
 
     private static void faultsByWhatThereIs() {
