@@ -1220,29 +1220,21 @@ public final class EvenSpring {
             if (start >= length) {
                 token = END;
             } else if (isLetter(byteAt(start))) {
-                readLetters();
+                token = WORD;
+                while (end < length && isLetter(byteAt(end))) {
+                    end++;
+                }
             } else if (isDigit(byteAt(start))) {
-                readDigits();
+                token = NUMBER;
+                number = 0;
+                while (end < length && isDigit(byteAt(end))) {
+                    // Held just above the most, so that a long row of digits can't wrap around.
+                    number = Math.min(MOST_NUMBER + 1, number * 10 + byteAt(end) - '0');
+                    end++;
+                }
             } else {
                 token = byteAt(start) == ';' ? SIGN : OTHER;
                 end = start + 1;
-            }
-        }
-
-        private void readLetters() {
-            token = WORD;
-            while (end < length && isLetter(byteAt(end))) {
-                end++;
-            }
-        }
-
-        private void readDigits() {
-            token = NUMBER;
-            number = 0;
-            while (end < length && isDigit(byteAt(end))) {
-                // Held just above the most, so that a long row of digits can't wrap around.
-                number = Math.min(MOST_NUMBER + 1, number * 10 + byteAt(end) - '0');
-                end++;
             }
         }
 
