@@ -393,19 +393,11 @@ public final class EvenSpring {
     }
 
     public int kind(int calendar, int n) {
-        Calendar one = here.calendarAt(calendar);
-        if (one == null || !within(n, 1, NEAR)) {
-            return found(BEYOND);
-        }
-        return bestValue(one, Calendar.KIND_OF, n);
+        return bestValue(calendar, Calendar.KIND_OF, n, NEAR);
     }
 
     public int begin(int calendar, int n) {
-        Calendar one = here.calendarAt(calendar);
-        if (one == null || !within(n, 1, CLOSE)) {
-            return found(BEYOND);
-        }
-        return bestValue(one, Calendar.BEGIN, n);
+        return bestValue(calendar, Calendar.BEGIN, n, CLOSE);
     }
 
     public int power(int n) {
@@ -692,17 +684,25 @@ public final class EvenSpring {
         return healed;
     }
 
-    /** The least value of a field with which a calendar agrees most with the true one as that stands. */
-    private int bestValue(Calendar one, int what, int n) {
+    /** The least value of a field with which a calendar agrees most with the true one in n days. */
+    private int bestValue(int calendar, int what, int n, int mostDays) {
+        Calendar one = here.calendarAt(calendar);
+        if (one == null || !within(n, 1, mostDays)) {
+            return found(BEYOND);
+        }
         if (here.calendarAt(here.truth) == null) {
             return found(STATE);
         }
+        int best = Calendar.least(what);
+        // The true calendar stays the true one with any value, and agrees with itself on every day.
+        if (calendar == here.truth) {
+            return best;
+        }
         lookAhead(n);
         tried.become(one);
-        int best = 0;
         int most = -1;
         int last = Calendar.greatest(what);
-        for (int v = 0; v <= last; v++) {
+        for (int v = best; v <= last; v++) {
             tried.change(what, v);
             int agreed = agreementsOfTried(n);
             if (agreed > most) {
@@ -771,6 +771,10 @@ public final class EvenSpring {
 
         static boolean allows(int what, int v) {
             return isField(what) && v >= LEAST[what] && v <= MOST[what];
+        }
+
+        static int least(int what) {
+            return isField(what) ? LEAST[what] : 0;
         }
 
         static int greatest(int what) {

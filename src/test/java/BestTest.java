@@ -7,7 +7,9 @@ public final class BestTest {
         cure();
         cureAtTheEdge();
         kind();
+        kindOfTruthItself();
         begin();
+        beginOfTruthItself();
         power();
         Checks.end();
     }
@@ -150,7 +152,7 @@ public final class BestTest {
             // OLD is as COUNT in all, and COUNT is less.
             int due = t == 1 ? 0 : t;
             Checks.due("26: kind as truth " + t, x.kind(0, 400), due);
-            Checks.due("26: truth stays as it is " + t, x.kind(t, 400), due);
+            Checks.due("26: truth agrees with itself as any kind " + t, x.kind(t, 400), 0);
         }
         x.law(1, 2);
         Checks.due("26: before the reform, the least", x.kind(5, 50), 0);
@@ -171,6 +173,24 @@ public final class BestTest {
         Checks.due("26: no truth", y.kind(0, 1), Checks.STATE);
         Checks.due("26: beyond comes first", y.kind(1, 1), Checks.BEYOND);
         Checks.due("26: beyond comes first", y.kind(0, 401), Checks.BEYOND);
+    }
+
+    private static void kindOfTruthItself() {
+        EvenSpring x = Checks.ofAllKinds();
+        x.set(4, 1, 7);
+        x.days(60);
+        x.law(1, 4);
+        Checks.due("26: truth itself, for 1 day", x.kind(4, 1), 0);
+        Checks.due("26: truth itself, for all", x.kind(4, 400), 0);
+        Checks.allFind("26: truth itself, beyond", Checks.BEYOND, x.kind(4, 0), x.kind(4, 401));
+        Checks.due("26: truth itself stays of its kind", x.of(4, 0), 4);
+        // One that is as truth is, but isn't truth, is best as what truth is.
+        x.turn(0, 4);
+        x.set(0, 1, 7);
+        Checks.due("26: its like is not truth", x.kind(0, 400), 4);
+        x.law(1, 0);
+        Checks.due("26: truth is another now", x.kind(4, 400), 4);
+        Checks.due("26: and agrees with itself", x.kind(0, 400), 0);
     }
 
     /** By turning it for good and asking agree; for a calendar that is not truth. */
@@ -200,7 +220,7 @@ public final class BestTest {
         x.set(0, 1, 38);
         x.set(2, 3, 0);
         Checks.due("27: as truth", x.begin(2, 100), 38);
-        Checks.due("27: truth stays as it is", x.begin(0, 100), 38);
+        Checks.due("27: truth agrees with itself with any begin", x.begin(0, 100), 0);
         Checks.due("27: for 1 day, 39 is odd", x.begin(2, 1), 0);
         x.set(0, 1, 37);
         Checks.due("27: for 1 day, 38 is even", x.begin(2, 1), 1);
@@ -208,7 +228,7 @@ public final class BestTest {
         x.set(1, 2, 60);
         x.set(1, 1, 99);
         x.law(1, 1);
-        Checks.due("27: by cog, a length of 60", x.begin(1, 100), bestBegin(x, 1, 1, 100));
+        Checks.due("27: truth by cog, a length of 60", x.begin(1, 100), 0);
         x.set(2, 2, 60);
         Checks.due("27: of another kind", x.begin(2, 100), bestBegin(x, 2, 1, 100));
         x.turn(0, 3);
@@ -221,7 +241,24 @@ public final class BestTest {
         Checks.due("27: beyond comes first", x.begin(3, 1), Checks.BEYOND);
     }
 
-    /** From dates alone; truth as it stands. */
+    private static void beginOfTruthItself() {
+        EvenSpring x = new EvenSpring();
+        x.calendar(0);
+        x.calendar(0);
+        x.law(1, 1);
+        x.set(0, 1, 1);
+        x.set(1, 1, 1);
+        Checks.due("27: truth itself, for 1 day", x.begin(1, 1), 0);
+        Checks.due("27: truth itself, for all", x.begin(1, 100), 0);
+        Checks.allFind("27: truth itself, beyond", Checks.BEYOND, x.begin(1, 0), x.begin(1, 101));
+        Checks.due("27: truth itself keeps its begin", x.of(1, 1), 1);
+        Checks.due("27: its like is not truth", x.begin(0, 1), 1);
+        x.law(1, 0);
+        Checks.due("27: truth is another now", x.begin(1, 1), 1);
+        Checks.due("27: and agrees with itself", x.begin(0, 1), 0);
+    }
+
+    /** From dates alone; for a calendar that is not truth. */
     private static int bestBegin(EvenSpring x, int calendar, int truth, int n) {
         int[] holy = new int[n];
         for (int d = 0; d < n; d++) {

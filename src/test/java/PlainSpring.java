@@ -444,9 +444,10 @@ final class PlainSpring {
         int best = 0;
         int most = -1;
         for (int v = MOST[what]; v >= LEAST[what]; v--) {
-            int[] other = w.calendars.get(calendar).clone();
-            other[what] = v;
-            int agreed = agreed(other, w.calendars.get(w.truth), n);
+            // In a copy of the whole, so that truth changes too if it is the one that is asked of.
+            World other = w.copy();
+            other.calendars.get(calendar)[what] = v;
+            int agreed = agreed(other.calendars.get(calendar), other.calendars.get(w.truth), n);
             if (agreed >= most) {
                 most = agreed;
                 best = v;
