@@ -238,6 +238,8 @@ public final class EmptyFullTest {
             32: sheet 2 8 5 | sheet 2 0 5 => sheet 2 0 5 = 0
             32: sheet 2 8 5 | write 2 4 7 | sheet 2 0 5 | sheet 2 8 5 => write 2 4 1 = 0
             32: sheet 2 8 5 | write 2 4 7 | sheet 2 8 5 => write 2 4 1 = 0
+            32: sheet 2 8 5 | write 2 0 7 | sheet 2 8 5 => write 2 0 1 = 0
+            32: sheet 2 8 5 | write 2 0 7 | sheet 2 16 1 => write 2 0 1 = 0
             32: sheet 2 8 5 | write 2 4 7 | sheet 2 8 2 | sheet 2 8 5 => write 2 4 1 = 0
             34: sheet 0 8 5 => copy 0 0 2 0 1 = MISSING
             34: sheet 0 8 5 => copy 2 0 0 0 1 = MISSING
@@ -267,6 +269,16 @@ public final class EmptyFullTest {
             38: image => image = 1
             38: image | tear | calendar 0 | image => undo = 1
             """);
+        // An image of nothing, kept while there is as much as may be: all is as in a new object then.
+        String emptied = "image | 6 calendar 5 | set 0 2 9 | law 0 50 | law 1 5 | 8 pilgrim 99 0 | 2 days 400 | tell old | undo";
+        Told.unchanged("39", emptied, "image | tell old", "undo", 0);
+        Told.table("39: " + emptied + " => calendar 0 = 0\n39: " + emptied + " | calendar 0 => of 0 2 = 30\n"
+            + "39: " + emptied + " => pilgrim 5 -1 = 0\n39: " + emptied + " | pilgrim 5 -1 => about 0 2 = 0\n"
+            + "39: " + emptied + " => now 4 = 0\n39: " + emptied + " => count 1 = 3");
+        // And the other way: as much as may be comes back.
+        String filled = "6 calendar 5 | set 5 1 99 | 8 pilgrim 99 5 | 2 days 400 | image";
+        Told.unchanged("39", filled + " | turn 5 0 | set 5 1 7 | mind 7 0 3 | mind 7 1 -1 | 2 days 400 | law 0 3 | law 1 3",
+            filled, "undo", 6);
     }
 
     /** "CALENDARS 0, 1, .. (at most 6)": the 6th and a 7th. */

@@ -403,6 +403,8 @@ public final class SpansTest {
             18: 2 calendar 0 => next 2 = BEYOND
             18: 2 calendar 0 | days 1 => next 0 = 1
             18: 2 calendar 0 | days 2 => next 0 = 3
+            18: calendar 0 | set 0 2 3 | days 2 => next 0 = 4
+            18: calendar 0 | set 0 2 3 | days 3 => next 0 = 4
             18: 2 calendar 0 | set 0 2 1 => next 0 = NONE
             18: calendar 5 | set 0 2 1 => next 0 = NONE
             18: calendar 4 | set 0 2 1 => next 0 = 0
