@@ -7,6 +7,7 @@ import java.nio.file.Path;
 import java.util.HashSet;
 import java.util.Set;
 import java.util.TreeSet;
+import java.util.regex.Matcher;
 import java.util.regex.Pattern;
 
 /** The document's public face, and those rules of LANGUAGE.md that can be told from outside. */
@@ -25,7 +26,9 @@ public final class FaceTest {
     public static void main(String[] args) throws Exception {
         face();
         members();
-        source(Files.readString(Path.of("src/main/java/EvenSpring.java")));
+        String text = Files.readString(Path.of("src/main/java/EvenSpring.java"));
+        source(text);
+        headings(text);
         Checks.end();
     }
 
@@ -85,6 +88,24 @@ public final class FaceTest {
             Checks.holds(m + " has at most seven parameters", m.getParameterCount() <= 7);
             Checks.holds(m + " has a name of its own", Modifier.isPublic(m.getModifiers()) || !open.contains(m.getName()));
         }
+    }
+
+    /** "Ahead of the calls .. the interface says: ---- .." */
+    private static void headings(String text) {
+        StringBuilder got = new StringBuilder();
+        for (String line : text.split("\n")) {
+            Matcher call = Pattern.compile(" {4}public (?:int|long) (\\w+)\\(.*").matcher(line);
+            if (line.startsWith("    // ---- ")) {
+                got.append(got.length() == 0 ? "" : " ").append(line.substring(12)).append(':');
+            } else if (call.matches()) {
+                got.append(' ').append(call.group(1));
+            }
+        }
+        String due = "calendars: calendar of set turn as date law pilgrims, jugs: pilgrim about mind drink bathe "
+            + "days: days now on well dates: next agree row meet both what is best: trust truth cure kind begin power "
+            + "the text: feed wipe spring sheets: sheet write copy lays book read images: image undo tear count status "
+            + "helpers:";
+        Checks.holds("headings: " + got, got.toString().equals(due));
     }
 
     private static void source(String text) {

@@ -1,9 +1,14 @@
 import java.util.Random;
 
-/** All promises: seeded runs of calls, each answer against that of the plain model. */
+/** All promises: seeded runs of calls, up to the last that an object is used for, each against the plain model. */
 public final class ModelTest {
     private static final int RUNS = 600;
-    private static final int CALLS = 500;
+    private static final int CALLS = 512;
+    // The calls of the longest text: wipe, 30 times feed, spring.
+    private static final int CALLS_OF_TEXT = 32;
+    // In every sixth run many days go first, up to the last day.
+    private static final int FAR_RUN = 6;
+    private static final int MOST_FAR = 250;
     // How often each call is made, by its place in the document's face; days and the text are wanted most.
     private static final int[] OFTEN = {0, 6, 3, 10, 5, 3, 8, 4, 6, 3, 6, 4, 3, 6, 8, 4, 4, 3, 3, 3, 3, 3,
         3, 2, 3, 2, 1, 1, 5, 1, 4, 6, 8, 4, 3, 3, 4, 2, 3, 1, 3, 3};
@@ -27,21 +32,33 @@ public final class ModelTest {
         for (int run = 0; run < RUNS; run++) {
             ModelTest test = new ModelTest(run);
             int left = CALLS;
+            if (run % FAR_RUN == 0) {
+                left -= test.goFar(run);
+            }
             while (left > 0) {
-                left -= test.step(run, all);
+                left -= test.step(run, all, left);
             }
         }
         Checks.end();
     }
 
-    private int step(int run, int all) {
+    private int goFar(int run) {
+        int calls = run % (2 * FAR_RUN) == 0 ? MOST_FAR : random.nextInt(MOST_FAR);
+        for (int i = 1; i < calls; i++) {
+            ask(run, 13, 400);
+        }
+        ask(run, 13, 399 - random.nextInt(3));
+        return Math.max(1, calls);
+    }
+
+    private int step(int run, int all, int left) {
         int pick = random.nextInt(all);
         int call = 0;
         while (pick >= OFTEN[call]) {
             pick -= OFTEN[call];
             call++;
         }
-        if (call == 30 && random.nextInt(3) > 0) {
+        if (call == 30 && left >= CALLS_OF_TEXT && random.nextInt(3) > 0) {
             return tellText(run);
         }
         long[] a = new long[5];
@@ -125,7 +142,7 @@ public final class ModelTest {
 
     private void fill(int call, long[] a) {
         int[] least = {0, 0, 1, 0, 0};
-        int[] most = {5, 99, 60, 99, 700};
+        int[] most = {5, 99, 60, 99, random.nextInt(4) == 0 ? 9999 : 700};
         a[0] = call == 20 ? some(1, 63) : someNumber();
         a[1] = someNumber();
         a[2] = someNumber();

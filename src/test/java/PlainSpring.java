@@ -15,6 +15,17 @@ final class PlainSpring {
     private static final int[] LEAST = {0, 0, 1, 0, 0};
     private static final int[] MOST = {5, 99, 60, 99, 9999};
 
+    // How many days from 0 to d have the rest 2 by 7: counted one by one, but once, as far as any look ahead goes.
+    private static final int[] LEFT_OUT = leftOut(99999 + 2000 + 1);
+
+    private static int[] leftOut(int days) {
+        int[] left = new int[days];
+        for (int d = 1; d < days; d++) {
+            left[d] = left[d - 1] + (d % 7 == 2 ? 1 : 0);
+        }
+        return left;
+    }
+
     /** A finding on its way to the answer. */
     private static final class Finding extends RuntimeException {
         private static final long serialVersionUID = 1L;
@@ -123,11 +134,7 @@ final class PlainSpring {
             case 4:
                 return runs(2, c, d) + (runs(2, c, d) / c[2]) / 4;
             case 5:
-                int left = 0;
-                for (int i = 2; i <= d; i += 7) {
-                    left++;
-                }
-                return runs(1, c, d) - left;
+                return runs(1, c, d) - LEFT_OUT[d];
             default:
                 return runs(ABOVE[kind], c, d);
         }

@@ -26,7 +26,7 @@ final class Told {
     Told(String acts) {
         if (!acts.isBlank()) {
             for (String act : acts.split(" \\| ")) {
-                doIt(act);
+                act(act);
             }
         }
     }
@@ -41,7 +41,8 @@ final class Told {
         return acts;
     }
 
-    private void doIt(String act) {
+    /** One act in words; unlike ask it may be told to be done more than once, or be a text. */
+    void act(String act) {
         if (act.startsWith("tell ")) {
             feed(act.substring(5));
             return;
@@ -66,6 +67,11 @@ final class Told {
             }
             ask("feed " + bytes + " " + n);
         }
+    }
+
+    /** How many calls the object has had. */
+    int calls() {
+        return calls;
     }
 
     long ask(String act) {
@@ -186,6 +192,24 @@ final class Told {
         } else {
             Checks.due(label(promise, before, act), new Told(before).ask(act), Long.parseLong(due));
         }
+    }
+
+    /** What a row is due: a number, or the name of a finding. */
+    static long number(String due) {
+        return FINDINGS.containsKey(due) ? FINDINGS.get(due) : Long.parseLong(due);
+    }
+
+    /** The act answers what is due, and all is then as by another road to the same. */
+    static void alike(String road, String before, String other, String act, String due) {
+        String label = label(road, before, act);
+        Told one = new Told(before);
+        int finding = FINDINGS.containsKey(due) ? Checks.BEYOND - FINDINGS.get(due) : -1;
+        long counted = one.ask("status " + finding);
+        Checks.due(label, one.ask(act), number(due));
+        Checks.due(label + ", then status", one.ask("status " + finding), counted + (finding < 0 ? 0 : 1));
+        String seen = one.look();
+        String dueLook = lookAfter(other + " | " + act);
+        Checks.holds(label + ", then" + seen + ", due" + dueLook, seen.equals(dueLook));
     }
 
     private static String label(String promise, String before, String act) {
