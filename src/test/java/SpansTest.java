@@ -15,6 +15,7 @@ public final class SpansTest {
         jugsAreHeld();
         days();
         lastDay();
+        farDays();
         on();
         well();
         next();
@@ -353,6 +354,37 @@ public final class SpansTest {
             36: calendar 0 | pilgrim 0 0 | sheet 0 8 4 | 249 days 400 | days 399 | mind 0 0 99 | book 0 0 => write 0 3 0 = 79
             37: calendar 0 | pilgrim 0 0 | sheet 0 8 4 | 249 days 400 | days 399 | mind 0 0 99 | book 0 0 => read 0 0 = 1
             """);
+    }
+
+    /** On the last day, with months of odd lengths and of every KIND: far days are not as near ones are. */
+    private static void farDays() {
+        String far = " | 249 days 400 | days 399 => ";
+        String monk = "calendar 5 | set 0 2 3 | calendar 0 | set 1 2 3";
+        Told.table("18: calendar 0 | set 0 2 7" + far + "next 0 = 100000\n"
+            + "18: calendar 3" + far + "next 0 = 99999\n"
+            + "18: calendar 3 | set 0 2 7" + far + "next 0 = 100000\n"
+            + "18: calendar 4" + far + "next 0 = 99999\n"
+            + "18: calendar 4 | set 0 2 3" + far + "next 0 = 100000\n"
+            + "18: " + monk + far + "next 0 = 100000\n"
+            + "26: " + monk + far + "kind 1 7 = 0\n"
+            + "26: " + monk + far + "kind 1 8 = 5");
+        // Months of three days make 100000 and 100003 HOLY, months of two days 99999, 100001 and 100003.
+        String two = "2 calendar 0 | set 0 2 3 | set 1 2 2 | pilgrim 0 0";
+        String ill = far.replace("=>", "| mind 0 0 20 =>");
+        Told.table("19: " + two + far + "agree 0 1 2 = 0\n"
+            + "19: " + two + far + "agree 0 1 6 = 3\n"
+            + "20: " + two + far + "row 1 0 6 = 3\n"
+            + "21: " + two + far + "meet 1 = 100000\n"
+            + "21: " + two + far + "meet 2 = 99999\n"
+            + "21: " + two + far + "meet 3 = 100003\n"
+            + "22: " + two + far + "both 0 2 1 1 = 100000\n"
+            + "16: " + two + ill + "on 0 1 0 = 20\n"
+            + "16: " + two + ill + "on 0 2 0 = 10\n"
+            + "17: " + two + ill + "well 0 = 5\n"
+            + "23: " + two + ill + "trust 0 = 0\n"
+            + "25: " + two + ill + "cure 0 = 100003\n"
+            + "28: " + two + ill + "power 2 = 20\n"
+            + "28: " + two + ill + "power 5 = 10");
     }
 
     /** "ILL (what 0), BATHED (1) of a PILGRIM ON n DAYS (0 to 400)". */
