@@ -22,13 +22,21 @@ public final class FaceTest {
         + "int tear() int count(int) int status(int)";
     private static final String[] BANNED = {"throw", "throws", "try", "catch", "synchronized", "assert", "import",
         "package", "hashCode", "toString", "lambda", "Thread", "Random", "Object", "Exception", "volatile", "native"};
+    private static final Set<String> CONSTANTS
+        = Set.of("int", "long", "boolean", "char", "String", "int[]", "long[]", "char[]", "byte[]");
+
+    // The first line of a method or a constructor, of the class itself or of one inside it.
+    private static final Pattern HEADER
+        = Pattern.compile("( {4}(?: {4})?)(?!(?:if|for|while|switch|else|do)\\b)([a-zA-Z].*\\) \\{)");
 
     public static void main(String[] args) throws Exception {
         face();
         members();
         String text = Files.readString(Path.of("src/main/java/EvenSpring.java"));
         source(text);
+        lengths(text);
         headings(text);
+        madeOnce(text);
         Checks.end();
     }
 
@@ -81,6 +89,8 @@ public final class FaceTest {
         for (Field f : c.getDeclaredFields()) {
             Checks.holds(f + " is private", Modifier.isPrivate(f.getModifiers()));
             Checks.holds(f + " is final if static", !Modifier.isStatic(f.getModifiers()) || Modifier.isFinal(f.getModifiers()));
+            Checks.holds(f + " is a constant if static", !Modifier.isStatic(f.getModifiers())
+                || CONSTANTS.contains(f.getType().getSimpleName()));
             own += Modifier.isStatic(f.getModifiers()) ? 0 : 1;
         }
         Checks.holds(c + " has at most twenty fields", own <= 20);
@@ -108,24 +118,58 @@ public final class FaceTest {
         Checks.holds("headings: " + got, got.toString().equals(due));
     }
 
+    /** All calls of a run live in one room: only fields and constructors make objects, so no call makes any. */
+    private static void madeOnce(String text) {
+        String code = withoutWords(text);
+        String method = "";
+        int made = 0;
+        for (String line : code.split("\n")) {
+            Matcher header = HEADER.matcher(line);
+            if (header.matches()) {
+                method = header.group(2);
+            }
+            if (line.matches(".*\\b(new|clone|copyOf|copyOfRange)\\b.*")) {
+                made++;
+                boolean isField = line.matches(" {4}(?: {4})?private final \\S+ \\w+ = new .*;");
+                boolean isConstructor = method.matches("(public )?[A-Z]\\w*\\(\\) \\{");
+                Checks.holds("made once: " + line.trim(), isField || isConstructor);
+            }
+        }
+        Checks.holds("objects are made", made > 0);
+    }
+
+    /** The text without comments and without what stands in quotes. */
+    private static String withoutWords(String text) {
+        return text.replaceAll("(?s)/\\*.*?\\*/", "").replaceAll("//[^\n]*", "").replaceAll("\"[^\"\n]*\"", "\"\"");
+    }
+
     private static void source(String text) {
-        String code = text.replaceAll("(?s)/\\*.*?\\*/", "").replaceAll("//[^\n]*", "").replaceAll("\"[^\"\n]*\"", "\"\"");
+        String code = withoutWords(text);
         for (String word : BANNED) {
             Checks.holds("no " + word, !Pattern.compile("\\b" + word + "\\b").matcher(code).find());
         }
         Checks.holds("no lambda", !code.contains("->"));
         Checks.holds("no method reference", !code.contains("::"));
+    }
+
+    /** "Methods stay short (some sixty lines)". */
+    private static void lengths(String text) {
+        int methods = 0;
         int from = 0;
         int line = 0;
+        String end = "";
         for (String one : text.split("\n")) {
             line++;
-            if (one.matches(" {4}(?: {4})?[a-zA-Z].*\\) \\{")) {
+            Matcher header = HEADER.matcher(one);
+            if (header.matches()) {
                 from = line;
-            }
-            if (one.matches(" {4}(?: {4})?\\}") && from > 0) {
-                Checks.holds("the method of line " + from + " is short", line - from <= 60);
+                end = header.group(1) + "}";
+                methods++;
+            } else if (from > 0 && one.equals(end)) {
+                Checks.holds("the method of line " + from + " is short", line - from < 60);
                 from = 0;
             }
         }
+        Checks.holds("methods are found, each with its end", methods > 41 && from == 0);
     }
 }

@@ -15,12 +15,18 @@ public final class ReadmeTest {
     private static final Pattern FED = Pattern.compile("for \\(char c : \"(.*)\"\\.toCharArray\\(\\)\\) x\\.feed\\(c, 1\\);");
     private static final Pattern TEXT = Pattern.compile("\\| `(.*)` \\| (-?\\d+) \\|");
     private static final Pattern FINDING = Pattern.compile("\\| ([A-Z]+) \\| (-\\d+) \\| (\\d) \\|.*");
+    private static final Pattern SPAN = Pattern.compile("\\| (`.*`) \\| [^|`]+ \\| (-?\\d+) \\| (\\d+) \\|");
+    private static final Pattern ACT = Pattern.compile("`(\\w+)\\(([^)]*)\\)`");
     private static final String NEW = "EvenSpring x = new EvenSpring();";
+    // There is all that a call of a span asks for: two calendars, a pilgrim, a good and a bad jug.
+    private static final String READY = "2 calendar 0 | pilgrim 50 -1 | days 17";
 
     public static void main(String[] args) throws IOException {
         String page = Files.readString(Path.of("README.md"));
         examples(page);
         texts(page);
+        spans(page);
+        atFirst(page);
         rowOfTable(page);
         findings(page);
         calls(page);
@@ -83,6 +89,45 @@ public final class ReadmeTest {
             }
         }
         Checks.due("README: texts", texts, 8);
+    }
+
+    private static void spans(String page) {
+        int spans = 0;
+        for (String line : page.split("\n")) {
+            Matcher row = SPAN.matcher(line);
+            if (row.matches()) {
+                Matcher act = ACT.matcher(row.group(1));
+                while (act.find()) {
+                    String words = act.group(1) + " " + act.group(2).replace(",", "");
+                    span(words, Integer.parseInt(row.group(2)), Integer.parseInt(row.group(3)));
+                    spans++;
+                }
+            }
+        }
+        Checks.due("README: spans", spans, 26);
+    }
+
+    private static void span(String words, int least, int greatest) {
+        for (int v : new int[] {least, (least + greatest) / 2, greatest}) {
+            long answer = new Told(READY).ask(words.replace("#", "" + v));
+            Checks.holds("README: " + words + " of " + v, answer != Checks.BEYOND && answer != Checks.SIZE);
+        }
+        boolean isSize = words.startsWith("sheet 0");
+        Checks.due("README: " + words + ", one less", new Told(READY).ask(words.replace("#", "" + (least - 1))),
+            isSize ? Checks.SIZE : Checks.BEYOND);
+        Checks.due("README: " + words + ", one more", new Told(READY).ask(words.replace("#", "" + (greatest + 1))),
+            Checks.BEYOND);
+    }
+
+    private static void atFirst(String page) {
+        Matcher m = Pattern.compile("BEGIN (\\d+), LENGTH (\\d+), LEFT (\\d+) and REFORM (\\d+); POWER is (\\d+) and TRUTH (\\d+) at first")
+            .matcher(page);
+        boolean isTold = m.find();
+        Checks.holds("README: what is at first", isTold);
+        for (int what = 1; isTold && what <= 6; what++) {
+            String act = what <= 4 ? "of 0 " + what : "now " + (what - 4);
+            Checks.due("README: at first, " + act, new Told("calendar 0").ask(act), Long.parseLong(m.group(what)));
+        }
     }
 
     private static void rowOfTable(String page) {

@@ -202,6 +202,7 @@ public final class RoadsTest {
         everyRoad();
         theLastCall();
         countsOfALongRun();
+        looksAreFresh();
         twoObjects();
         Checks.end();
     }
@@ -257,6 +258,27 @@ public final class RoadsTest {
         String both = "image | 254 calendar 6 | undo | 254 status 9 | tear";
         Checks.due("42: 508 times BEYOND", new Told(both).ask("status 0"), 508);
         Checks.due("42: 508 findings", new Told(both).ask("status -1"), 508);
+    }
+
+    /** What an earlier look ahead saw is nothing to a later one, up to the last of its 400 days. */
+    private static void looksAreFresh() {
+        // Every day is HOLY by 0 (LEAP, months of one day) while it is looked at; then it is COUNT, and none is.
+        String seen = "calendar 4 | set 0 2 1 | calendar 0 | pilgrim 5 0 | well 0 | on 0 400 0 | agree 0 1 400 | turn 0 0 => ";
+        Told.table("16: " + seen + "on 0 400 0 = 5\n"
+            + "16: " + seen + "on 0 400 1 = 0\n"
+            + "17: " + seen + "well 0 = NONE\n"
+            + "19: " + seen + "agree 0 1 400 = 200\n"
+            + "20: " + seen + "row 0 1 400 = 1\n"
+            + "23: " + seen + "trust 0 = NONE\n"
+            + "26: " + seen + "kind 1 400 = 5\n"
+            + "28: " + seen + "power 100 = 1");
+        // And the other way: none was HOLY while it was looked at, then every day is.
+        String blind = "calendar 0 | set 0 2 1 | calendar 0 | pilgrim 5 0 | well 0 | on 0 400 0 | agree 0 1 400 | turn 0 4 => ";
+        Told.table("16: " + blind + "on 0 400 0 = 0\n"
+            + "17: " + blind + "well 0 = 1\n"
+            + "19: " + blind + "agree 0 1 400 = 200\n"
+            + "23: " + blind + "trust 0 = 0\n"
+            + "28: " + blind + "power 100 = 1");
     }
 
     /** What is asked of one object is nothing to another. */
